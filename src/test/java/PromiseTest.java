@@ -160,6 +160,8 @@ public final class PromiseTest {
         due("a LANTERN by an odd NIGHT", 31, x.told(0, LOOKS));
         x.nights(1);
         due("a LANTERN by an even NIGHT", 11, x.told(0, LOOKS));
+        x.nights(1);
+        due("a LANTERN by an odd NIGHT again", 31, x.told(0, LOOKS));
     }
 
     private static void p03Texts() {
@@ -573,6 +575,10 @@ public final class PromiseTest {
         due("who is not UP counts", 2, x.covers(4, 1));
         x.turns(2, SENTRY);
         due("who LIVES does not", 1, x.covers(4, 1));
+        x.turns(0, GENERAL);
+        x.moves(1, 11);
+        due("the first one is one of the others, too", 9, x.covers(4, 0));
+        due("the first one is one of the others, too", 2, x.covers(4, 1));
         due("guard", BAD, x.covers(5, 0));
         due("guard", BAD, x.covers(-1, 0));
         due("what", BAD, x.covers(0, 2));
@@ -930,7 +936,7 @@ public final class PromiseTest {
         Object[][] rows = {{"7", 7}, {"0009", 9}, {"9999", 9999}, {"h", 5}, {"l", 3}, {"1-2-3", -4}, {"8/2/2", 2},
             {"2+3*4", 14}, {"(2+3)*4", 20}, {"7/2", 3}, {"(0-7)/2", -3}, {"7/0", 0}, {"0/0", 0}, {"1-5/0*3+2", 3},
             {"1<2", 1}, {"2<2", 0}, {"3<2", 0}, {"2>2", 0}, {"3>2", 1}, {"2=2", 1}, {"2=3", 0}, {"1+1=4/2", 1},
-            {"!0", 1}, {"!7", 0}, {"!!7", 1}, {"!0+1", 2}, {"!(0+1)", 0}, {"!0*5", 5}, {"!1<2", 1}, {"5&6", 1},
+            {"!0", 1}, {"!7", 0}, {"!!7", 1}, {"!0+1", 2}, {"!(0+1)", 0}, {"!(0)*5", 5}, {"!(1)+2", 2}, {"!!(0)-1", -1}, {"!0*5", 5}, {"!1<2", 1}, {"5&6", 1},
             {"5&0", 0}, {"0|0", 0}, {"0|9", 1}, {"1|1&0", 1}, {"(1|1)&0", 0}, {"0&1|1", 1}, {"0&(1|1)", 0},
             {"1<2&3<2", 0}, {"1<2|3<2", 1}, {"(1<2)<3", 1}, {"1=(2=2)", 1}, {"2&1+1", 1}, {"!h|l", 1}, {"h*10+l", 53},
             {"9999*9999*9999", 9999 * 9999 * 9999}, {"9999*9999*22+9999*9999", 9999 * 9999 * 22 + 9999 * 9999},
@@ -943,7 +949,7 @@ public final class PromiseTest {
 
     private static void p27Faults() {
         begin("27 text: FAULTS");
-        Object[][] rows = {{"", 0}, {"   ", 3}, {"x", 0}, {"  x", 2}, {"7", 0}, {"lo", 0}, {"lookw", 0}, {"Look w", 0}, {"fees 1", 0},
+        Object[][] rows = {{"", 0}, {"   ", 3}, {"x", 0}, {"  x", 2}, {"7", 0}, {"lo", 0}, {"lookw", 0}, {"looka", 0}, {"lookz", 0}, {"alook", 0}, {"fee0", 3}, {"fee9", 3}, {"Look w", 0}, {"fees 1", 0},
             {"look", 4}, {"look  ", 6}, {"fee1", 3}, {"fee12345", 3}, {"fee 12345", 4}, {"fee 1 2", 6}, {"fee 1h", 5},
             {"fee h1", 5}, {"fee hl", 4}, {"fee h l", 6}, {"fee w", 4}, {"fee d", 4}, {"fine h", 5}, {"fine p", 5}, {"look h", 5},
             {"look l", 5}, {"fee look", 4}, {"fee 1+", 6}, {"fee 1+ ", 7}, {"fee +1", 4}, {"fee 1++1", 6}, {"fee 1+*1", 6},
@@ -960,6 +966,14 @@ public final class PromiseTest {
             due("it uses THE TAPE up", 0, x.count(8));
         }
         due("none of them", 0, x.count(6));
+        text("fee 3-(2*!");
+        text("fee 7");
+        due("a FAULT leaves nothing behind", 7, x.fee());
+        text("fee " + many("(", 9));
+        text("fee " + many("!", 9));
+        due("a FAULT leaves nothing behind", 1, text("fee " + many("!(", 8) + "h" + many(")", 8)));
+        due("! and ( are open no more", 2, text("fee " + many("!(h)+", 12) + "h"));
+        due("what they give", 12, x.fee());
     }
 
     private static void p27() {
@@ -1110,6 +1124,8 @@ public final class PromiseTest {
         due("beyond", 2, x.reads(0));
         sheetOf(0, 0, 9, 4, 0);
         due("first", 1, x.reads(0));
+        sheetOf(0, 0, 8, 3);
+        due("the very first", 0, x.reads(0));
         sheetOf(0, 0);
         due("no places", NONE, x.reads(0));
         sheetOf(0, 1, 9);
