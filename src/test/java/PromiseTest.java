@@ -583,6 +583,18 @@ public final class PromiseTest {
         due("guard", BAD, x.covers(-1, 0));
         due("what", BAD, x.covers(0, 2));
         due("what", BAD, x.covers(0, -1));
+        begin("15 covers, at the ends");
+        x.guard(MAN, 9, 0);
+        x.guard(STRAW, 18, 0);
+        x.guard(STRAW, 19, 0);
+        x.guard(MAN, 17, 0);
+        x.guard(MAN, 16, 0);
+        due("there is no POST 20", 0, x.covers(0, 1));
+        due("there is no POST 20", 0, x.covers(0, 0));
+        x.moves(2, 7);
+        x.moves(1, 1);
+        due("POST 0", 1, x.covers(0, 1));
+        due("POST 0", 0, x.covers(0, 0));
     }
 
     private static void p16() {
@@ -603,6 +615,13 @@ public final class PromiseTest {
         x.guard(LANTERN, 19, 0);
         x.set(6, UP, 0);
         due("who is not UP, too", 3, x.fewest());
+        begin("16 fewest, from POST 0 on");
+        x.guard(STRAW, 0, 0);
+        due("POST 0", 1, x.fewest());
+        x.guard(STRAW, 4, 0);
+        due("POSTS 0 and 4", 1, x.fewest());
+        x.moves(1, 5);
+        due("POSTS 0 and 5", 2, x.fewest());
     }
 
     private static void p17() {
@@ -762,6 +781,9 @@ public final class PromiseTest {
         x.set(0, DOUBT, 53);
         due("with none", NONE, x.needed(1));
         due("SIGHT stays", 3, x.count(2));
+        x.set(0, DOUBT, 51);
+        x.moves(0, 0);
+        due("as far as can be", 19, x.needed(1));
         for (int seed = 0; seed < 10; seed++) {
             x = new StrawGarrison();
             x.seed(seed * 31);
@@ -1448,7 +1470,50 @@ public final class PromiseTest {
         due("what", BAD, x.count(-1));
     }
 
+    /** Ten GUARDS fill every row. */
+    private static void ten() {
+        begin("ten GUARDS");
+        for (int g = 0; g < 10; g++) {
+            x.guard(g == 4 ? MAN : STRAW, 2 * g, 0);
+        }
+        x.rule(0, 19);
+        x.rule(1, 0);
+        x.rule(2, 0);
+        for (int g = 0; g < 10; g++) {
+            x.set(g, DOUBT, 20 + g);
+        }
+        sheetOf(0, 0, 29, 26, 23);
+        due("like", 9, x.like(0, 0));
+        due("like", 0, x.like(0, 1));
+        due("behind", 26, x.behind(1, 13));
+        due("behind", 9 * 60 + 99, x.behind(1, 3));
+        due("becomes", GENERAL, x.becomes(9, 1, 0));
+        due("washed", 0, x.washed(1, 0));
+        due("needed", 0, x.needed(1));
+        due("bluff", NONE, x.bluff());
+        due("fewest", 4, x.fewest());
+        due("covers", 2, x.covers(9, 1));
+        due("seen", 1023, x.seen(9));
+        x.keep();
+        x.tell(0);
+        x.tell(245 - 30);
+        due("check", 0, x.check(1));
+        x.rule(1, 100);
+        due("nights", 0, x.nights(1));
+        due("border", 215, x.border(6));
+        due("border", 0, x.border(5));
+        due("STRENGTH", 10, x.border(4));
+        due("COUNTED", 9 * 59 + 99, x.border(3));
+        sheetOf(1, 0, 0, 1, 2, 3, 4, 5, 6, 7, 8, 9, 10, 11);
+        due("pour", 9, x.pour(1));
+        due("reads", 1, x.reads(1));
+        x.set(9, UP, 0);
+        due("not UP", 512, x.border(5));
+        due("back", 10, x.back());
+    }
+
     public static void main(String[] args) {
+        ten();
         p01();
         p02();
         p03();
