@@ -22,10 +22,9 @@ public final class StrawGarrison {
     private static final int MOST_WAITING = 60, MOST_CHECKED = 30;
     private static final int MOST_NIGHTS = 100, MOST_BLUFF = 200, MOST_AHEAD = 60;
 
-    private final Book book = new Book();
-    private final Border now = new Border(book);
-    private final Border image = new Border(book);
-    private final Border thought = new Border(book);
+    private final Border now = new Border();
+    private final Border image = new Border();
+    private final Border thought = new Border();
     private boolean imageKept = false;
     private final Reader reader = new Reader();
     private final byte[] tape = new byte[MOST_BYTES];
@@ -314,16 +313,16 @@ public final class StrawGarrison {
     }
 
     public int fee() {
-        int text = now.counting[FEE];
-        return text == NONE ? now.tolls[HELD] : book.valueOf(text, now.tolls[HELD], now.tolls[LOST], 0);
+        Text text = now.book.textFor(FEE);
+        return text == null ? now.tolls[HELD] : text.valueOf(now.tolls[HELD], now.tolls[LOST], 0);
     }
 
     public int fine(int guard) {
         if (!isGuard(guard)) {
             return BAD;
         }
-        int text = now.counting[FINE];
-        return text == NONE ? now.doubt[guard] : book.valueOf(text, now.wear[guard], now.doubt[guard], 0);
+        Text text = now.book.textFor(FINE);
+        return text == null ? now.doubt[guard] : text.valueOf(now.wear[guard], now.doubt[guard], 0);
     }
 
     // ---- texts
@@ -350,24 +349,11 @@ public final class StrawGarrison {
         int bytes = taped;
         taped = 0;
         int fault = reader.read(tape, bytes);
-        if (fault != NONE) {
-            return FAULT - fault;
-        }
-        if (now.texts >= MOST_TEXTS) {
-            return FULL;
-        }
-        int number = now.texts;
-        book.write(number, new Text(reader));
-        now.counting[reader.key] = number;
-        now.texts++;
-        return number;
+        return fault == NONE ? now.book.take(reader) : FAULT - fault;
     }
 
     public int textTold(int text, int what) {
-        if (!isWithin(text, 0, now.texts - 1)) {
-            return BAD;
-        }
-        Text row = book.rowOf(text);
+        Text row = now.book.rowOf(text);
         if (row == null) {
             return BAD;
         }
@@ -375,7 +361,7 @@ public final class StrawGarrison {
     }
 
     public int why(int key) {
-        return isWithin(key, LOOK, FINE) ? now.counting[key] : BAD;
+        return isWithin(key, LOOK, FINE) ? now.book.counting[key] : BAD;
     }
 
     // ---- sheets, slots
@@ -600,7 +586,7 @@ public final class StrawGarrison {
             case 3: return now.rules[RAIN];
             case 4: return now.rules[COURAGE];
             case 5: return now.rules[FORCE];
-            case 6: return now.texts;
+            case 6: return now.book.texts;
             case 7: return waits;
             case 8: return taped;
             case 9: return now.z;
@@ -638,7 +624,6 @@ public final class StrawGarrison {
         return Math.max(0, Math.min(99, v));
     }
 
-    /** What is COUNTED when n NIGHTS more have passed in the thought. */
     private int countedBehind(int n) {
         for (int i = 0; i < n; i++) {
             thought.passNight();
@@ -646,7 +631,7 @@ public final class StrawGarrison {
         return thought.counted();
     }
 
-    /** Behind how many of the thought's next NIGHTS there was a RAID first; 0: in none of them. */
+    /** 0 stands for none, as the first RAID is behind one NIGHT at least. */
     private int firstRaid(int most) {
         for (int i = 1; i <= most; i++) {
             if (thought.passNight()) {
@@ -682,7 +667,7 @@ public final class StrawGarrison {
         private static final int STRAW = 0, COATED = 1, MAN = 2, GENERAL = 3, SENTRY = 4, LANTERN = 5;
         private static final int[] ABOVE = {NONE, STRAW, STRAW, COATED, MAN, STRAW};
 
-        /** Whether one of a KIND is of another KIND, or of one under it. */
+        /** A KIND is under itself here, as a GUARD may be taken for one of its own KIND. */
         static boolean isUnder(int kind, int other) {
             int at = kind;
             for (int i = 0; i < KINDS && at >= 0 && at < KINDS; i++) {
@@ -733,9 +718,8 @@ public final class StrawGarrison {
         }
     }
 
-    /** All that AN IMAGE keeps. TEXTS stand in the book; a border knows how many of them are its own. */
+    /** All that AN IMAGE keeps. */
     private static final class Border {
-        private final Book book;
         int guards = 0;
         final int[] kind = new int[MOST_GUARDS];
         final int[] post = new int[MOST_GUARDS];
@@ -746,12 +730,7 @@ public final class StrawGarrison {
         final int[] tolls = {0, 0, 0};
         int night = 0;
         int z = 1;
-        int texts = 0;
-        final int[] counting = {NONE, NONE, NONE};
-
-        Border(Book book) {
-            this.book = book;
-        }
+        final Book book = new Book();
 
         void become(Border other) {
             guards = other.guards;
@@ -764,8 +743,7 @@ public final class StrawGarrison {
             System.arraycopy(other.tolls, 0, tolls, 0, tolls.length);
             night = other.night;
             z = other.z;
-            texts = other.texts;
-            System.arraycopy(other.counting, 0, counting, 0, KEYS);
+            book.become(other.book);
         }
 
         /** The caller has seen that there is room and that the POST is nobody's. */
@@ -814,10 +792,8 @@ public final class StrawGarrison {
         }
 
         int looksOf(int g) {
-            int text = counting[LOOK];
-            int plain = text == NONE
-                ? 60 - wear[g] / 2
-                : heldWithin99(book.valueOf(text, wear[g], doubt[g], post[g]));
+            Text text = book.textFor(LOOK);
+            int plain = text == null ? 60 - wear[g] / 2 : heldWithin99(text.valueOf(wear[g], doubt[g], post[g]));
             return Kinds.looks(kind[g], plain, night);
         }
 
@@ -859,7 +835,7 @@ public final class StrawGarrison {
             return sum;
         }
 
-        /** How many that do not LIVE, other than one GUARD, are NEAR a POST. */
+        /** The GUARD itself is left out, as COVERS asks for others. */
         int othersNear(int guard, int somePost) {
             int near = 0;
             for (int g = 0; g < guards; g++) {
@@ -870,7 +846,7 @@ public final class StrawGarrison {
             return near;
         }
 
-        /** One NIGHT, whatever its number: whether there was a RAID. */
+        /** Whether there was a RAID. THE NIGHT has no bound here, as it has none in what is only thought. */
         boolean passNight() {
             blow(draw() % 100);
             setUp();
@@ -931,46 +907,61 @@ public final class StrawGarrison {
         }
     }
 
+    /** The TEXTS of a border by their numbers, and which of them counts for each KEY. */
+    private static final class Book {
+        int texts = 0;
+        private final Text[] rows = new Text[MOST_TEXTS];
+        final int[] counting = {NONE, NONE, NONE};
+
+        void become(Book other) {
+            texts = other.texts;
+            for (int i = 0; i < MOST_TEXTS; i++) {
+                rows[i] = other.rows[i];
+            }
+            System.arraycopy(other.counting, 0, counting, 0, KEYS);
+        }
+
+        int take(Reader reader) {
+            if (texts >= MOST_TEXTS) {
+                return FULL;
+            }
+            int number = texts;
+            rows[number] = new Text(reader);
+            counting[reader.key] = number;
+            texts++;
+            return number;
+        }
+
+        Text rowOf(int number) {
+            return isWithin(number, 0, texts - 1) ? rows[number] : null;
+        }
+
+        Text textFor(int key) {
+            int number = counting[key];
+            return isWithin(number, 0, texts - 1) ? rows[number] : null;
+        }
+    }
+
     /** A TEXT, worked out from left to right: what a sign works on stands ahead of it. */
     private static final class Text {
         final int key;
         final int pieces;
-        final int[] code;
+        private final int[] code;
+        private final int[] stack;
 
         Text(Reader reader) {
             key = reader.key;
             pieces = reader.pieces;
             code = Arrays.copyOf(reader.code, reader.length);
-        }
-    }
-
-    /** The TEXTS by their numbers, and the stack on which they are worked out. */
-    private static final class Book {
-        private final Text[] rows = new Text[MOST_TEXTS];
-        private final int[] stack = new int[MOST_BYTES];
-
-        void write(int number, Text row) {
-            if (isWithin(number, 0, MOST_TEXTS - 1)) {
-                rows[number] = row;
-            }
+            // Only a NUMBER or a NAME comes onto it, so it is never higher than the code is long.
+            stack = new int[code.length];
         }
 
-        Text rowOf(int number) {
-            return isWithin(number, 0, MOST_TEXTS - 1) ? rows[number] : null;
-        }
-
-        /** What a TEXT gives, its NAMES standing for these three in their order. */
-        int valueOf(int number, int first, int second, int third) {
-            if (!isWithin(number, 0, MOST_TEXTS - 1)) {
-                return 0;
-            }
-            Text row = rows[number];
-            if (row == null) {
-                return 0;
-            }
+        /** What it gives, its NAMES standing for these three in their order. */
+        int valueOf(int first, int second, int third) {
             int height = 0;
-            for (int i = 0; i < row.code.length; i++) {
-                int piece = row.code[i];
+            for (int i = 0; i < code.length; i++) {
+                int piece = code[i];
                 if (piece >= Reader.LAST_NAME) {
                     if (height < stack.length) {
                         stack[height] = piece >= 0 ? piece
@@ -1081,7 +1072,6 @@ public final class StrawGarrison {
             return place;
         }
 
-        /** The place behind the word or sign that begins at a place. */
         private static int endOf(byte[] tape, int place, int bytes) {
             if (place >= bytes) {
                 return bytes;
