@@ -252,7 +252,7 @@ public final class StrawGarrison {
             thought.become(now);
             thought.wear[g] = 0;
             int counted = countedBehind(n);
-            if (best == NONE || counted > most) {
+            if (counted > most) {
                 most = counted;
                 best = g;
             }
@@ -284,7 +284,7 @@ public final class StrawGarrison {
             thought.become(now);
             thought.kind[guard] = kind;
             int counted = countedBehind(n);
-            if (best == NONE || counted > most) {
+            if (counted > most) {
                 most = counted;
                 best = kind;
             }
