@@ -112,11 +112,20 @@ public final class FaceTest {
         }
     }
 
+    /** A field's first value is made while its object is: it may be given nothing that is part of it. */
+    private static void firstValues(String source) {
+        Matcher given = Pattern.compile("(?m)^    (?:    )?(?:private |static |final )*\\w+ \\w+ = new \\w+\\(.+\\);$").matcher(source);
+        while (given.find()) {
+            Checks.holds("nothing of an object is handed out while it is made: " + given.group().trim(), false);
+        }
+    }
+
     public static void main(String[] args) throws Exception {
         methods();
         members();
         String source = Files.readString(Path.of("src/main/java/StrawGarrison.java"));
         words(source);
+        firstValues(source);
         lengths(source.split("\n"));
         Checks.end();
     }
